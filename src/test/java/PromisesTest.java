@@ -450,6 +450,8 @@ public final class PromisesTest {
         c.due("10: its pieces", x.fact(0, 0), 3);
         Checks.schedule(x, 6, "");
         c.due("10: nothing is odd without want", x.fact(0, 2), 0);
+        x.exhibitor(3, 0, 33, false);
+        c.due("10: not won", x.fact(0, 9), 0);
         c.refused("10: what -1", () -> x.fact(0, -1));
         c.refused("10: what 14", () -> x.fact(0, 14));
         c.refused("10: entry -1", () -> x.fact(-1, 0));
@@ -678,7 +680,14 @@ public final class PromisesTest {
         x.strike(1);
         c.due("20: struck", x.span(1, 0), NONE);
         x.strike(0);
-        c.due("20: judge 0 is no kin now", x.span(2, 0), 1);
+        x.lean(0, 3, -9);
+        x.entry(0, 3, bit(13), 0);
+        x.entry(0, 4, bit(16), 0);
+        x.judge(1, 3);
+        x.judge(2, 3);
+        c.due("20: judge 0 is no kin now", x.span(2, 0), 2);
+        x.lean(0, 3, 9);
+        c.due("20: what judge 0 would have done", x.span(2, 0), 1);
     }
 
     private static void tables() {
@@ -892,13 +901,18 @@ public final class PromisesTest {
         c.due("30: only seconds have points", x.cup(), 1 << 2);
         x.prize(2, 0, 0);
         c.due("30: none has points", x.cup(), 0);
-        x.prize(1, 2, 0);
         x.prize(2, 1, 0);
+        c.due("30: a point is enough", x.cup(), 1 << 2);
+        x.prize(1, 2, 0);
         x.entry(2, 4, bit(16), 0);
         x.entry(3, 4, bit(17), 0);
         c.due("30: two firsts", x.cup(), 1 << 4);
         x.judged(3, NONE);
         c.due("30: one is not judged now", x.cup(), 1 << 1 | 1 << 3 | 1 << 4);
+        x.entry(4, 0, bit(0), 0);
+        c.due("30: exhibitor 0, too", x.cup(), 1 | 1 << 1 | 1 << 3 | 1 << 4);
+        c.due("29: exhibitor 0", x.points(false, 0), 2);
+        c.due("29: house 0", x.points(true, 0), 2);
     }
 
     private static void can() {
@@ -953,6 +967,36 @@ public final class PromisesTest {
         y.entry(1, 1, bit(5), 0);
         y.judged(1, 0);
         c.due("31: alike there, in no order here", y.can(0), 1);
+
+        VillageShow z = village();
+        z.judge(0, 5);
+        z.prize(1, 3, 0);
+        z.prize(2, 3, 0);
+        for (int kind = 0; kind < 3; kind++) {
+            Checks.schedule(z, kind, "marks grade;");
+        }
+        z.entry(0, 1, bit(4), 0);
+        z.entry(0, 2, bit(8), 0);
+        z.judged(0, 0);
+        c.due("31: as many points, but a first less", z.can(1), 0);
+        c.due("31: a first more", z.can(2), 1);
+        z.entry(1, 1, bit(5), 0);
+        z.entry(1, 2, bit(9), 0);
+        c.due("31: the firsts can be alike", z.can(1), 1);
+        z.entry(2, 2, bit(10), 0);
+        z.entry(2, 1, bit(6), 0);
+        c.due("31: or more", z.can(1), 1);
+        z.judged(2, 0);
+        c.due("31: not any more", z.can(1), 0);
+        z.prize(1, 1, 0);
+        z.prize(2, 0, 0);
+        z.judged(1, 0);
+        z.judged(2, NONE);
+        z.judged(0, NONE);
+        z.strike(0);
+        z.strike(2);
+        z.strike(3);
+        c.due("31: a point is enough", z.can(1), 1);
     }
 
     private static void canLimits() {
@@ -1039,6 +1083,8 @@ public final class PromisesTest {
         x.judged(0, 0);
         c.due("33: the first", x.money(2), 999);
         c.due("33: two seconds", x.money(1), 80);
+        c.yes("28: no fees", x.fees(0, 0));
+        c.due("33: nothing to pay", x.money(2), 999);
         c.yes("28: fees", x.fees(7, 3));
         c.due("33: less the fee", x.money(2), 992);
         x.lost(0, 4);
@@ -1253,12 +1299,15 @@ public final class PromisesTest {
         x.entry(0, 1, bit(5), 0);
         x.strike(2);
         x.lost(0, 2);
-        c.due("38: entries", x.count(3), 3);
-        c.due("38: that stand", x.count(4), 2);
+        x.entry(0, 2, bit(8), 0);
+        c.due("38: entries", x.count(3), 4);
+        c.due("38: that stand", x.count(4), 3);
         c.due("38: out of these", x.count(5), 1);
         x.judge(2, 4);
         x.judged(5, 2);
         c.due("38: classes judged", x.count(6), 1);
+        x.judged(0, 2);
+        c.due("38: two classes judged", x.count(6), 2);
         c.due("38: judges", x.count(7), 1);
         Checks.book(x, "bar 1 when 0;");
         c.due("38: bars", x.count(8), 1);

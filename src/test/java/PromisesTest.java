@@ -738,6 +738,7 @@ public final class PromisesTest {
             Checks.schedule(x, kind, "");
             x.entry(kind, kind, bit(4 * kind), 0);
         }
+        c.due("24: class 0 is not told", new VillageShow().moves(false, 1), NONE);
         c.due("24: no feet", x.moves(false, 0), NONE);
         c.due("24: no way, no table", x.moves(false, 1), NONE);
         x.lay(0, 0, 2);
@@ -773,6 +774,10 @@ public final class PromisesTest {
         x.table(2, 10);
         c.due("24: guessed", x.moves(true, 0), 1);
         c.due("24: guessed, where", x.moves(true, 3), 2);
+        x.table(0, 0);
+        x.table(2, 0);
+        x.table(1, 20);
+        c.due("24: all to one table", x.moves(false, 0), 4);
     }
 
     private static void rounds() {
@@ -1219,6 +1224,8 @@ public final class PromisesTest {
         holds(x, 1, "last=0 and most=7 and years=3", true);
         x.year(1, 0, 0);
         holds(x, 1, "least=0 and years=4 and mean=3", true);
+        x.year(2, 0, 88);
+        holds(x, 1, "least=0 and years=4 and mean=3 and most=7", true);
         holds(x, 1, "0", false);
         Checks.plan(x, "join when 1;split when wanted=3;drop when wanted=1;");
         c.due("36: dropped", x.planned(1, 0), 1);
@@ -1285,6 +1292,8 @@ public final class PromisesTest {
         x.judged(0, NONE);
         c.yes("37: back", x.mark(1, true));
         c.due("37: judged again", x.place(2, NONE), 1);
+        c.yes("37: a smaller one laid behind", x.mark(0, false) && x.mark(1, true));
+        c.no("37: is gone, too", x.mark(0, true));
     }
 
     private static void count() {

@@ -18,12 +18,14 @@ final class Edges {
     private final Document document;
     private final Checks checks;
     private final String untouched;
+    private final String emptied;
     private String label = "";
 
     Edges(String name) throws IOException {
         document = new Document();
         checks = new Checks(name);
         untouched = Sample.picture(Sample.show());
+        emptied = Sample.picture(Sample.emptied());
     }
 
     /** The checks from here on are for this sentence. */
@@ -52,13 +54,27 @@ final class Edges {
     void leaves(String what, long due, On call) {
         VillageShow show = Sample.show();
         due(what, call.on(show), due);
-        same(what, show);
+        same(what, untouched, show);
+    }
+
+    /** As leaves, but the tape is empty afterwards. */
+    void empties(String what, long due, On call) {
+        VillageShow show = Sample.show();
+        due(what, call.on(show), due);
+        same(what, emptied, show);
+    }
+
+    /** True is answered, but all is as it was: what is told had been told before. */
+    void tellsNothingNew(String what, Told call) {
+        VillageShow show = Sample.show();
+        yes(what, call.on(show));
+        same(what, untouched, show);
     }
 
     void declines(String what, Told call) {
         VillageShow show = Sample.show();
         no(what, call.on(show));
-        same(what, show);
+        same(what, untouched, show);
     }
 
     void none(String what, On call) {
@@ -68,11 +84,11 @@ final class Edges {
     void refuses(String what, On call) {
         VillageShow show = Sample.show();
         refused(what, () -> call.on(show));
-        same(what, show);
+        same(what, untouched, show);
     }
 
-    private void same(String what, VillageShow show) {
-        String[] before = untouched.split("\n");
+    private void same(String what, String picture, VillageShow show) {
+        String[] before = picture.split("\n");
         String[] after = Sample.picture(show).split("\n");
         String other = "";
         for (int i = 0; i < Math.max(before.length, after.length) && other.isEmpty(); i++) {

@@ -15,6 +15,7 @@ public final class EdgesTest {
         TableEdges.run(e);
         PrizeEdges.run(e);
         GardenEdges.run(e);
+        AgainEdges.run(e);
         e.end();
     }
 }

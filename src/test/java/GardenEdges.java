@@ -23,6 +23,7 @@ final class GardenEdges {
         planPairs(e);
         plannedRefused(e);
         markHolds(e);
+        markLeaves(e);
         markEmpty(e);
         marksBehind(e);
         markFull(e);
@@ -489,6 +490,44 @@ final class GardenEdges {
             e.due("leans stay", x.marks(0, 2), 13);
             e.due("years stay", x.taken(0, true), 14);
         }
+    }
+
+    private static void markLeaves(Edges e) {
+        e.at(37, "MARKS 0 to 3 hold");
+        VillageShow x = Sample.show();
+        x.mark(0, false);
+        Checks.feed(x, "bar 0 when worst=9;");
+        e.due("a new book", x.book(), 0);
+        e.due("a new schedule", Checks.schedule(x, 0, "want 2 kind 1;marks 7;tie size;"), 0);
+        e.due("a new plan", Checks.plan(x, "split when now=2 and mean=30 and years=1;"), 0);
+        x.exhibitor(1, 3, 99, true);
+        x.piece(2, 0, 1, 99, 0);
+        x.judge(0, 4);
+        x.lean(0, 3, 5);
+        x.table(0, 50);
+        x.lay(0, 0, 8);
+        x.cap(1);
+        x.prize(2, 44, 444);
+        x.fees(1, 1);
+        x.year(0, 4, 30);
+        Checks.feed(x, "tape");
+        e.yes("back", x.mark(0, true));
+        e.due("signs on the tape", x.count(9), 4);
+        e.due("bars of the book", x.count(8), 2);
+        e.due("which bar", x.verdict(2), 9);
+        e.due("the schedule", x.marks(0, 1), 7);
+        e.due("the plan and the years", x.planned(0, 0), 2);
+        e.due("the exhibitor", x.fact(1, 7), 99);
+        e.due("the judge and the lean", x.marks(1, 0), 12);
+        e.due("the judge's house", x.kin(0, 3), 0);
+        e.due("by whom it is judged is held", x.place(1, NONE), 2);
+        e.due("a prize and fees", x.money(1), 444 - 1);
+        e.due("points", x.points(true, 3), 44);
+        e.due("where it lies", x.taken(0, false), 17);
+        e.due("the feet", x.moves(false, 0), 0);
+        e.due("the cap: one class for judge 1", x.round(4), 1);
+        e.due("the cap: one class for judge 3", x.round(10), 3);
+        e.due("the piece", x.sets(0, 3, 9, 0), 99 + 16 + 1);
     }
 
     private static void markEmpty(Edges e) {

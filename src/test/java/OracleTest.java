@@ -32,10 +32,10 @@ public final class OracleTest {
         int[] spoken = new int[NAMES.length];
         for (int seed = 1; seed <= RUNS; seed++) {
             OracleTest run = new OracleTest(seed, asked, spoken);
-            if (seed % 5 == 4) {
+            if (seed % 6 == 4) {
                 run.readMuch();
             } else {
-                run.go(seed % 5);
+                run.go(seed % 6);
             }
             if (run.wrong > 0) {
                 wrong++;
@@ -75,9 +75,11 @@ public final class OracleTest {
         return random.nextBoolean();
     }
 
+    /** In manner 5 the show is full: ten exhibitors, all pieces, and as many entries as come to stand. */
     private void go(int manner) {
         calm = manner >= 1;
-        int people = 3 + random.nextInt(8);
+        boolean full = manner == 5;
+        int people = full ? 10 : 3 + random.nextInt(8);
         for (int i = 0; i < people; i++) {
             call("exhibitor", i, random.nextInt(calm ? 4 : 6), 1 + random.nextInt(99), random.nextInt(5) == 0 ? 1 : 0);
         }
@@ -98,8 +100,12 @@ public final class OracleTest {
             call("table", i, random.nextInt(25));
         }
         int entries = 4 + random.nextInt(14);
-        for (int i = 0; i < entries; i++) {
+        for (int i = 0; i < entries && !full; i++) {
             enter();
+        }
+        for (int i = 0; i < 45 && full; i++) {
+            int piece = i % 40;
+            call("entry", random.nextInt(kinds), oracle.pieces.get(piece).exhibitor(), 1L << piece, random.nextInt(10));
         }
         for (int i = 0; i < kinds; i++) {
             call("judged", i, random.nextInt(4));

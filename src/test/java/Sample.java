@@ -2,8 +2,17 @@ import java.util.NoSuchElementException;
 
 /** A show in the midst of things, with something of everything, and a picture of all that such a show answers. */
 final class Sample {
-    /** 5 entries, of which entry 3 is struck; classes 0, 3 and 9; judges 0, 1 and 3; marks 1 and 3 are laid. */
+    /** The text that is on its tape. */
+    static final String TAPE = "bar 9 when age=60;";
+
     static VillageShow show() {
+        VillageShow x = emptied();
+        Checks.feed(x, TAPE);
+        return x;
+    }
+
+    /** 5 entries, of which entry 3 is struck; classes 0, 3 and 9; judges 0, 1 and 3; marks 1 and 3; an empty tape. */
+    static VillageShow emptied() {
         VillageShow x = new VillageShow();
         x.exhibitor(0, 0, 40, false);
         x.exhibitor(1, 1, 8, false);
@@ -48,7 +57,6 @@ final class Sample {
         x.prize(1, 6, 100);
         x.prize(3, 2, 9);
         x.fees(3, 2);
-        Checks.feed(x, "bar 9 when age=60;");
         return x;
     }
 

@@ -28,6 +28,7 @@ final class TextEdges {
         misplaced(e);
         theFirstFault(e);
         told(e);
+        faultsLeave(e);
         noSuchClass(e);
     }
 
@@ -648,6 +649,40 @@ final class TextEdges {
         e.due("its entries stay", y.fact(0, 13), 1);
         e.due("it is still judged", y.place(0, Edges.NONE), 1);
         e.due("three classes", y.count(2), 3);
+    }
+
+    private static int more(VillageShow x, String text, int reader) {
+        Checks.feed(x, text);
+        return reader == BOOK ? x.book() : reader == PLAN ? x.plan() : 0;
+    }
+
+    private static void faultsLeave(Edges e) {
+        int there = Sample.TAPE.length();
+        for (int kind = 0; kind <= 9; kind++) {
+            int its = kind;
+            e.at(5, "its FAULT (it stays as it was)");
+            e.empties("a schedule of class " + kind + " with something behind it", 1 + 16 * there, x -> {
+                more(x, "x", SCHEDULE);
+                return x.schedule(its);
+            });
+            e.empties("a seventh bar for class " + kind, 5 + 16 * (there + 65), x -> {
+                more(x, "bar 1 when 1;".repeat(6), SCHEDULE);
+                return x.schedule(its);
+            });
+        }
+        for (int kind : Edges.outside(0, 9)) {
+            e.at(5, "-1: no such CLASS (the TAPE is empty)");
+            e.empties("class " + kind, -1, x -> x.schedule(kind));
+        }
+        e.at(6, "The TAPE is read as the BOOK: 0, or its FAULT (likewise).");
+        e.empties("something behind it", 1 + 16 * there, x -> more(x, "x", BOOK));
+        e.empties("a line of a schedule behind it", 1 + 16 * there, x -> more(x, "marks 1;", BOOK));
+        e.empties("a number not as told", 4 + 16 * (there + 4), x -> more(x, "bar 100 when 1;", BOOK));
+        e.empties("no end", 1 + 16 * (there + 12), x -> more(x, "bar 1 when 1", BOOK));
+        e.empties("a seventh bar", 5 + 16 * (there + 65), x -> more(x, "bar 1 when 1;".repeat(6), BOOK));
+        e.at(7, "The TAPE is read as the PLAN: 0, or its FAULT (likewise).");
+        e.empties("a bar", 1, VillageShow::plan);
+        e.empties("a bar and a plan", 1, x -> more(x, "drop when 1;", PLAN));
     }
 
     private static void noSuchClass(Edges e) {

@@ -1,6 +1,7 @@
 import java.io.IOException;
 import java.nio.file.Files;
 import java.nio.file.Path;
+import java.util.Arrays;
 import java.util.List;
 
 /** The document's words, and which of them tests have quoted. */
@@ -19,7 +20,7 @@ final class Document {
         boolean quote(String words) {
             boolean found = false;
             for (int at = text.indexOf(words); at >= 0; at = text.indexOf(words, at + 1)) {
-                java.util.Arrays.fill(quoted, at, at + words.length(), true);
+                Arrays.fill(quoted, at, at + words.length(), true);
                 found = true;
             }
             return found;

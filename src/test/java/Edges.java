@@ -6,6 +6,9 @@ final class Edges {
     static final int NONE = VillageShow.NONE;
     static final int LOW = Integer.MIN_VALUE;
     static final int HIGH = Integer.MAX_VALUE;
+    /** Expressions for the greatest and the least int; numbers on the tape have four digits at most. */
+    static final String GREATEST = "9999*9999*21+9999*4790+8416";
+    static final String LEAST = "0-(" + GREATEST + ")-1";
 
     interface On {
         long on(VillageShow show);
@@ -105,7 +108,8 @@ final class Edges {
     }
 
     void end() {
-        checks.due("words of DOC.md that no test quotes: " + document.left() + "; so many", document.left().length(), 0);
+        String left = document.left();
+        checks.yes("every word of DOC.md is quoted by a test, but for: " + left, left.isEmpty());
         checks.end();
     }
 }

@@ -1,7 +1,6 @@
 /** The edges of sets, years, the plan, marks that are laid, and counts: promises 34 to 38. */
 final class GardenEdges {
     private static final int NONE = VillageShow.NONE;
-    private static final String MOST = "9999*9999*21+9999*4790+8416";
 
     private GardenEdges() {
     }
@@ -190,11 +189,12 @@ final class GardenEdges {
 
     private static void setsEnds(Edges e) {
         e.at(34, "MARKS together");
-        best(e, "the greatest ints", with(garden(2, 38), "marks " + MOST + ";", "marks " + MOST + ";"), 2L * Edges.HIGH,
-            bit(38), bit(39));
-        best(e, "the greatest int and 1", with(garden(2, 0), "marks " + MOST + "+pieces;", "marks 0;"), 0, 0, 0);
-        best(e, "the least int, less 1 for each", with(garden(2, 0), "marks 0-(" + MOST + ")-1-pieces;", ""), Edges.HIGH,
-            0b1, 0);
+        String greatest = "marks " + Edges.GREATEST;
+        best(e, "the greatest ints", with(garden(2, 38), greatest + ";", greatest + ";"), 2L * Edges.HIGH, bit(38),
+            bit(39));
+        best(e, "the greatest int and 1", with(garden(2, 0), greatest + "+pieces;", "marks 0;"), 0, 0, 0);
+        best(e, "the least int, less 1 for each", with(garden(2, 0), "marks " + Edges.LEAST + "-pieces;", ""),
+            Edges.HIGH, 0b1, 0);
     }
 
     private static void setsRefused(Edges e) {

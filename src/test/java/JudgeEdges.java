@@ -1,8 +1,6 @@
 /** The edges of judges, marks and places: promises 14 to 20. */
 final class JudgeEdges {
     private static final int NONE = VillageShow.NONE;
-    private static final String MOST = "9999*9999*21+9999*4790+8416";
-    private static final String LEAST = "0-(" + MOST + ")-1";
 
     private JudgeEdges() {
     }
@@ -228,13 +226,13 @@ final class JudgeEdges {
         x.strike(0);
         e.due("of a struck one", x.marks(0, 0), -11);
         e.at(17, "ints wrap");
-        Checks.schedule(x, 0, "marks " + MOST + ";");
+        Checks.schedule(x, 0, "marks " + Edges.GREATEST + ";");
         e.due("the greatest int and 9", x.marks(0, 0), Edges.LOW + 8);
         x.lean(0, 1, 1);
         e.due("the greatest int and 1", x.marks(0, 0), Edges.LOW);
         x.lean(0, 1, 0);
         e.due("the greatest int", x.marks(0, 0), Edges.HIGH);
-        Checks.schedule(x, 0, "marks " + LEAST + ";");
+        Checks.schedule(x, 0, "marks " + Edges.LEAST + ";");
         e.due("the least int", x.marks(0, 0), Edges.LOW);
         x.lean(0, 1, -1);
         e.due("the least int less 1", x.marks(0, 0), Edges.HIGH);
@@ -333,7 +331,7 @@ final class JudgeEdges {
 
     private static void placesAtTheEnds(Edges e) {
         e.at(18, "by MARKS, the greatest first, then by tie's E (0 without), the greatest first;");
-        String ends = "(grade=1)*(" + MOST + ")+(grade=2)*(" + LEAST + ")";
+        String ends = "(grade=1)*(" + Edges.GREATEST + ")+(grade=2)*(" + Edges.LEAST + ")";
         VillageShow x = houses();
         x.judge(0, 5);
         for (int piece = 0; piece < 12; piece += 4) {

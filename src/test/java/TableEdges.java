@@ -1,3 +1,4 @@
+import java.util.Arrays;
 import java.util.Random;
 
 /** The edges of tables, moves and rounds: promises 21 to 26. */
@@ -47,7 +48,7 @@ final class TableEdges {
 
     private static int[] all(int many, int n) {
         int[] row = new int[many];
-        java.util.Arrays.fill(row, n);
+        Arrays.fill(row, n);
         return row;
     }
 

@@ -3,8 +3,6 @@ final class TextEdges {
     private static final int SCHEDULE = 0;
     private static final int BOOK = 1;
     private static final int PLAN = 2;
-    private static final String MOST = "9999*9999*21+9999*4790+8416";
-    private static final String LEAST = "0-(" + MOST + ")-1";
 
     private TextEdges() {
     }
@@ -37,10 +35,6 @@ final class TextEdges {
     private static int read(VillageShow x, int text, String signs) {
         return text == SCHEDULE ? Checks.schedule(x, 0, signs) : text == BOOK ? Checks.book(x, signs)
             : Checks.plan(x, signs);
-    }
-
-    private static int promise(int text) {
-        return 5 + text;
     }
 
     private static void fine(Edges e, int text, String signs) {
@@ -513,7 +507,7 @@ final class TextEdges {
 
     private static void tests(Edges e) {
         e.at(5, "Of not, and, or, < and = comes 1 or 0; what is not 0 is so; ints wrap.");
-        for (String so : new String[] {"1", "2", "9999", "(0-1)", "(0-9999)", "(" + LEAST + ")", "(" + MOST + ")"}) {
+        for (String so : new String[] {"1", "2", "9999", "(0-1)", "(0-9999)", "(" + Edges.LEAST + ")", "(" + Edges.GREATEST + ")"}) {
             worth(e, "not " + so, 0);
             worth(e, so + " and " + so, 1);
             worth(e, so + " and 0", 0);
@@ -538,16 +532,16 @@ final class TextEdges {
     }
 
     private static void wrapping(Edges e) {
-        worth(e, MOST, Edges.HIGH);
-        worth(e, LEAST, Edges.LOW);
-        worth(e, MOST + "+1", Edges.LOW);
-        worth(e, LEAST + "-1", Edges.HIGH);
-        worth(e, MOST + "+1<0", 1);
-        worth(e, LEAST + "-1<0", 0);
-        worth(e, LEAST + "<" + MOST, 1);
-        worth(e, MOST + "<" + LEAST, 0);
-        worth(e, "0-(" + LEAST + ")", Edges.LOW);
-        worth(e, "(" + LEAST + ")*(0-1)", Edges.LOW);
+        worth(e, Edges.GREATEST, Edges.HIGH);
+        worth(e, Edges.LEAST, Edges.LOW);
+        worth(e, Edges.GREATEST + "+1", Edges.LOW);
+        worth(e, Edges.LEAST + "-1", Edges.HIGH);
+        worth(e, Edges.GREATEST + "+1<0", 1);
+        worth(e, Edges.LEAST + "-1<0", 0);
+        worth(e, Edges.LEAST + "<" + Edges.GREATEST, 1);
+        worth(e, Edges.GREATEST + "<" + Edges.LEAST, 0);
+        worth(e, "0-(" + Edges.LEAST + ")", Edges.LOW);
+        worth(e, "(" + Edges.LEAST + ")*(0-1)", Edges.LOW);
         worth(e, "256*256*256*256", 0);
         worth(e, "not(256*256*256*256)", 1);
         worth(e, "256*256*256*128", Edges.LOW);
@@ -555,7 +549,7 @@ final class TextEdges {
         VillageShow x = new VillageShow();
         x.exhibitor(0, 0, 1, false);
         x.piece(0, 0, 0, 1, 0);
-        Checks.schedule(x, 0, "bar 5 when 256*256*256*256;bar 6 when " + LEAST + ";");
+        Checks.schedule(x, 0, "bar 5 when 256*256*256*256;bar 6 when " + Edges.LEAST + ";");
         x.entry(0, 0, 1, 0);
         e.due("the first bar wraps to 0, the second one is the least int", x.verdict(0), 6);
     }

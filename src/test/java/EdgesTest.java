@@ -16,6 +16,7 @@ public final class EdgesTest {
         PrizeEdges.run(e);
         GardenEdges.run(e);
         AgainEdges.run(e);
+        FullEdges.run(e);
         e.end();
     }
 }

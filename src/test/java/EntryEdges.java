@@ -361,6 +361,13 @@ final class EntryEdges {
             Checks.book(x, "bar 30 when 0;".repeat(6));
             e.due("no bar", x.verdict(0), NONE);
         }
+        for (int bars = 0; bars <= 6; bars++) {
+            VillageShow x = garden();
+            x.entry(0, 0, 1, 0);
+            Checks.book(x, "bar 8 when 0;".repeat(bars));
+            Checks.schedule(x, 0, "marks 1;tie 1;" + "bar 9 when 0;".repeat(bars));
+            e.due("marks and tie are no bars behind " + bars, x.verdict(0), NONE);
+        }
         VillageShow x = garden();
         x.entry(0, 0, 1, 0);
         Checks.schedule(x, 0, "bar 0 when 1;");

@@ -448,8 +448,24 @@ final class PrizeEdges {
         Fair mixed = new Fair(3).enter(0, 0).enter(1, 0, 1, 2, 3, 4, 5);
         e.due("six in the second class", mixed.x.can(0), NONE);
         e.due("six, for one who has none", mixed.x.can(9), NONE);
+        Fair third = new Fair(3).enter(0, 0).enter(1, 0).enter(2, 0, 1, 2, 3, 4);
+        e.due("five in the third class", third.x.can(0), 1);
+        e.due("six in the third class", third.enter(2, 5).x.can(0), NONE);
+        e.due("ten in the third class", third.enter(2, 6, 7, 8, 9).x.can(0), NONE);
         Fair both = new Fair(4).enter(0, 0).enter(1, 0).enter(2, 0).enter(3, 0, 1, 2, 3, 4, 5);
         e.due("four classes, six in the last", both.x.can(0), NONE);
+        Fair own = new Fair(2).prizes(9, 9, 9).enter(0, 0, 0, 0).judge(0).enter(1, 1, 1, 1);
+        chances(e, "all three places of one class, against as many", own.x, 0b11);
+        own.prizes(9, 9, 8);
+        chances(e, "the third is worth a point less for both", own.x, 0b11);
+        own.enter(1, 1, 1);
+        chances(e, "five of one, three places", own.x, 0b11);
+        Fair forty = new Fair(10);
+        for (int entry = 0; entry < 40; entry++) {
+            forty.enterOne(entry < 25 ? 3 + entry % 7 : (entry - 25) % 3, entry < 25 ? 1 : entry % 10, 90 - entry);
+        }
+        forty.judge(3, 4, 5, 6, 7, 8, 9);
+        chances(e, "40 entries, three of five are open", forty.x, 0b10);
         Fair fives = new Fair(3).enter(0, 0, 1, 2, 3, 4).enter(1, 0, 1, 2, 3, 4).enter(2, 5, 6, 7, 8, 9);
         chances(e, "three of five", fives.x, 1023);
     }

@@ -17,6 +17,8 @@ public final class EdgesTest {
         GardenEdges.run(e);
         AgainEdges.run(e);
         FullEdges.run(e);
+        SignEdges.run(e);
+        PairEdges.run(e);
         e.end();
     }
 }

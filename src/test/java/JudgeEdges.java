@@ -17,6 +17,7 @@ final class JudgeEdges {
         places(e);
         placesOfMany(e);
         placesAtTheEnds(e);
+        leansAndTies(e);
         placeRefused(e);
         judged(e);
         judgedRefused(e);
@@ -345,6 +346,32 @@ final class JudgeEdges {
         x.lean(0, 1, 1);
         x.lean(0, 2, -1);
         placed(e, x, 0, 2, 3, 1);
+    }
+
+    /** A lean makes marks alike that are not, and others of those that are; it is no part of tie's E. */
+    private static void leansAndTies(Edges e) {
+        e.at(18, "ENTRIES that are alike in both have the same PLACE: 1 and how many are ahead.");
+        VillageShow x = houses();
+        x.judge(0, 5);
+        Checks.schedule(x, 0, "marks grade;");
+        enter(x, 0, 4);
+        enter(x, 0, 8);
+        placed(e, x, 0, 2, 1);
+        x.lean(0, 1, 1);
+        placed(e, x, 0, 1, 1);
+        e.at(18, "then by tie's E (0 without), the greatest first;");
+        Checks.schedule(x, 0, "marks grade;tie size;");
+        placed(e, x, 0, 1, 1);
+        Checks.schedule(x, 0, "marks grade;tie grade;");
+        placed(e, x, 0, 2, 1);
+        Checks.schedule(x, 0, "marks grade;tie 0-grade;");
+        placed(e, x, 0, 1, 2);
+        x.lean(0, 2, -9);
+        x.lean(0, 1, -8);
+        Checks.schedule(x, 0, "marks grade;tie size+2*grade;");
+        placed(e, x, 0, 2, 1);
+        x.lean(0, 1, -7);
+        placed(e, x, 0, 1, 2);
     }
 
     private static void placeRefused(Edges e) {

@@ -416,6 +416,11 @@ final class TableEdges {
         dealt(e, "0 and 2", round(judge, new int[] {0, 2}, entry), 2, 0, 0);
         dealt(e, "2, 0 and 1", round(judge, new int[] {2, 0, 1}, entry), 2, 0, 0, 0);
         dealt(e, "0, 2, 0 and 2", round(judge, new int[] {0, 2, 0, 2}, entry), 2, 0, 0, 0, 0);
+        VillageShow full = round(judge, new int[] {1, 1}, entry);
+        full.table(0, 1);
+        full.table(1, 1);
+        e.due("a full table: one would have to be moved", full.moves(false, 0), 1);
+        dealt(e, "as they lie, not as they could be moved", full, 0, 0, 0);
         e.at(26, "The way with the least WALKS together;");
         int[] two = {4, 4};
         dealt(e, "two judges, two tables", round(two, new int[] {0, 2}, entry), 0, 0, 1);

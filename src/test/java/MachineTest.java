@@ -18,6 +18,7 @@ public final class MachineTest {
     public static void main(String[] args) throws Exception {
         extremes();
         frugality();
+        room();
         dearest();
         checks.end();
     }
@@ -125,6 +126,45 @@ public final class MachineTest {
         new VillageShow();
         long made = counter.getThreadAllocatedBytes(me) - before;
         checks.yes("an object has " + made + " bytes", made < 40000);
+    }
+
+    // ---- room
+
+    /**
+     * LANGUAGE.md and rule 12: some 600,000 objects and 7.3 million elements for all calls of a run. So many bytes hold
+     * less than that of either, as an object has 16 bytes at least and an element one.
+     */
+    private static final long ROOM = 7300000;
+
+    private static void room() throws Exception {
+        com.sun.management.ThreadMXBean counter =
+            (com.sun.management.ThreadMXBean) ManagementFactory.getThreadMXBean();
+        long me = Thread.currentThread().getId();
+        for (Method method : VillageShow.class.getDeclaredMethods()) {
+            if (!java.lang.reflect.Modifier.isPublic(method.getModifiers())) {
+                continue;
+            }
+            Random random = new Random(11);
+            VillageShow show = fullShow(random);
+            ask(show, method, random);
+            long before = counter.getThreadAllocatedBytes(me);
+            for (int call = 0; call < 512; call++) {
+                ask(show, method, random);
+            }
+            long made = counter.getThreadAllocatedBytes(me) - before;
+            checks.yes("512 calls of " + method.getName() + " made " + made + " bytes", made < ROOM);
+        }
+        VillageShow show = new VillageShow();
+        long before = counter.getThreadAllocatedBytes(me);
+        for (int call = 0; call < 512; call++) {
+            if (call % 43 < 42) {
+                show.feed(0x2020202020202020L, 0x2020202020202020L, 0x2020202020202020L);
+            } else {
+                checks.due("a full tape is read", show.schedule(call % 10), 0);
+            }
+        }
+        long made = counter.getThreadAllocatedBytes(me) - before;
+        checks.yes("512 calls that fill the tape and read it made " + made + " bytes", made < ROOM);
     }
 
     // ---- time

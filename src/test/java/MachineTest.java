@@ -37,17 +37,19 @@ public final class MachineTest {
                 if (method.getName().equals("can") && run % 2 == 1 && random.nextInt(10) > 0) {
                     continue;
                 }
-                ask(show, method, random);
+                ask(show, method, random, true);
             }
         }
     }
 
-    private static void ask(VillageShow show, Method method, Random random) throws Exception {
+    /** Wild arguments are mostly refused; tame ones, 0 to 2, are mostly answered. */
+    private static void ask(VillageShow show, Method method, Random random, boolean wild) throws Exception {
         Class<?>[] types = method.getParameterTypes();
         Object[] arguments = new Object[types.length];
         for (int i = 0; i < types.length; i++) {
             arguments[i] = types[i] == boolean.class ? (Object) random.nextBoolean()
-                : types[i] == int.class ? (Object) anInt(random) : (Object) aLong(random);
+                : types[i] == long.class ? (Object) aLong(random)
+                : (Object) (wild ? anInt(random) : random.nextInt(3));
         }
         try {
             method.invoke(show, arguments);
@@ -146,10 +148,10 @@ public final class MachineTest {
             }
             Random random = new Random(11);
             VillageShow show = fullShow(random);
-            ask(show, method, random);
+            ask(show, method, random, false);
             long before = counter.getThreadAllocatedBytes(me);
             for (int call = 0; call < 512; call++) {
-                ask(show, method, random);
+                ask(show, method, random, false);
             }
             long made = counter.getThreadAllocatedBytes(me) - before;
             checks.yes("512 calls of " + method.getName() + " made " + made + " bytes", made < ROOM);
